@@ -566,6 +566,28 @@ public final class PromiseTests {
         due("18: twenty leads of twelve", most.choices(), 0);
     }
 
+    // All that is promised is promised of one object, whatever is done to another meanwhile.
+    private static void objectsAreKeptApart() {
+        BellRows x = huntOnFour();
+        BellRows y = huntOnThree();
+        due("x: call", x.call(1, 3), 15);
+        due("y: call", y.call(1, 1), 7);
+        due("x: lead", x.lead(0), 1);
+        due("y: lead", y.lead(1), 1);
+        due("x: lead again", x.lead(1), 2);
+        due("y: change", y.change(4), 3);
+        due("y: last", y.last(), 3);
+        dueRows("x", x, 1234, 2143, 2413, 4231, 4213);
+        dueRows("y", y, 123, 132, 312, 321);
+        due("x: place", x.place(4, 3), 0);
+        due("y: no bell 4", y.place(4, 3), BAD_ARG);
+        due("y: back", y.back(), 1);
+        due("x: order", x.order(0), 4);
+        due("x: turn", x.turn(), 0);
+        due("y: none is left", y.turn(), NONE);
+        due("x: back", x.back(), 0);
+    }
+
     public static void main(String[] args) {
         promise1NewObject();
         promise2Change();
@@ -586,6 +608,7 @@ public final class PromiseTests {
         promise17Leads();
         promise18Choices();
         promise18ChoicesWhenFull();
+        objectsAreKeptApart();
         System.out.println(wrong == 0 ? "all promises hold" : wrong + " answers are not as due");
         if (wrong != 0) {
             System.exit(1);
